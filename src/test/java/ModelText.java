@@ -7,6 +7,7 @@ import java.util.regex.Pattern;
 /** The Model's reader of a TEXT: all TOKENS are cut first, a FAULT is thrown. */
 final class ModelText {
     static final class Fault extends RuntimeException {
+        private static final long serialVersionUID = 1;
         final int kind;
         final int place;
 
