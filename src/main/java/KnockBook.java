@@ -1209,10 +1209,11 @@ public final class KnockBook {
             int best = NONE;
             int least = FAR;
             for (int word = 0; word < words.count; word++) {
-                int steps = stepsFromLeft(size, words.row[word]);
-                if (steps < least) {
-                    least = steps;
-                    best = word;
+                // ROWS are APART by the SOUNDS that one has more, at the least: that spares most of the work
+                if (Math.abs(size - words.size[word]) < least) {
+                    int steps = stepsFromLeft(size, words.row[word]);
+                    best = steps < least ? word : best;
+                    least = steps < least ? steps : least;
                 }
             }
             return best;
@@ -1244,9 +1245,10 @@ public final class KnockBook {
                 int corner = line[0];
                 line[0] = i + 1;
                 for (int j = 0; j < otherSize; j++) {
-                    int kept = corner + (left[i] == right[j] ? 0 : 1);
+                    int kept = left[i] == right[j] ? corner : corner + 1;
                     corner = line[j + 1];
-                    line[j + 1] = Math.min(kept, Math.min(corner, line[j]) + 1);
+                    int moved = (corner < line[j] ? corner : line[j]) + 1;
+                    line[j + 1] = kept < moved ? kept : moved;
                 }
             }
             return line[otherSize];

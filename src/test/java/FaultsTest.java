@@ -50,6 +50,10 @@ public final class FaultsTest {
         due(1, "^x");
         due(1, "^things k 1;");
         due(1, "^thin g k 1;");
+        due(1, "^shing k 1;");
+        due(1, "^thins k 1;");
+        due(1, "^tining k;");
+        due(1, "^zine k;");
         due(1, "^;");
         due(1, "thing k 1;^;");
         due(1, "^5");
@@ -116,6 +120,11 @@ public final class FaultsTest {
     private static void unknownWords() {
         due(3, "thing ^kx 1;");
         due(3, "thing ^kkkkkkkkx 1;");
+        due(3, "thing ^kz 1;");
+        due(3, "thing ^ak 1;");
+        due(3, "pine ^kaz;");
+        due(3, "joins ^reft;");
+        due(3, "joins ^fame;");
         due(3, "thing ^thing 1;");
         due(3, "thing ^joins");
         due(3, "pine ^kkx;");
