@@ -33,6 +33,14 @@ final class Check {
         due(what, "throws.IllegalArgumentException", call);
     }
 
+    /** The place is where the mark ^ stands in the text, which is no part of it; without one there is no FAULT. */
+    void fault(int fault, String marked) {
+        KnockBook book = new KnockBook();
+        due("fault of " + marked, fault, () -> tell(book, marked.replace("^", "")));
+        due("place in " + marked, marked.indexOf('^'), book::fault);
+        due("refused by " + marked, fault == 0 ? 0 : 1, () -> book.count(8));
+    }
+
     void end() {
         System.out.println(asked + " answers asked for, " + wrong + " not as due");
         if (wrong != 0 || asked == 0) {

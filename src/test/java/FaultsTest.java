@@ -8,14 +8,8 @@ public final class FaultsTest {
     private FaultsTest() {
     }
 
-    /** The place is where the mark ^ stands in the text, which is no part of it; without one there is no FAULT. */
     private static void due(int fault, String marked) {
-        int place = marked.indexOf('^');
-        String text = marked.replace("^", "");
-        KnockBook book = new KnockBook();
-        CHECK.due("fault of " + marked, fault, () -> Check.tell(book, text));
-        CHECK.due("place in " + marked, place, book::fault);
-        CHECK.due("refused by " + marked, fault == 0 ? 0 : 1, () -> book.count(8));
+        CHECK.fault(fault, marked);
     }
 
     public static void main(String[] args) {
