@@ -295,6 +295,8 @@ public final class BoundariesTest {
         CHECK.due("7: wet felt too", 45, () -> y.door(0, 4));
         CHECK.due("7: one word, no couple", 0, () -> Check.told("thing k 1;felt k;").door(0, 4));
         CHECK.due("7: no words, no couple", 0, () -> Check.told("felt k;").door(0, 4));
+        CHECK.due("6: the first door can't", 2, () -> Check.told("thing k 1;pine prs;pine k;pine s;").word(0, 4));
+        CHECK.due("7: the first word it can't", 2, () -> Check.told("thing k 1;thing p 1;thing pk 1;pine prs;").door(0, 3));
         CHECK.due("6: no doors", 0, () -> Check.told("thing k 1;").word(0, 4));
         CHECK.due("7: no words", 0, () -> Check.told("felt k;").door(0, 3));
         CHECK.due("7: oak confounds k and p: it hears nothing", 1, () -> Check.told("thing k 1;thing p 1;oak k;").door(0, 4));
@@ -349,6 +351,17 @@ public final class BoundariesTest {
         CHECK.due("9: none of three", 0, () -> zero.read(31, 0));
         CHECK.due("9: below 0 is something else than 0", 3, () -> Check.told("thing k 1;thing kk 1;joins 0-1;").read(31, 0));
         CHECK.due("9: a word longer than the row", 0, () -> Check.told("thing kkkkkk 1;").read(row("kkkkk"), 0));
+        KnockBook slides = Check.told("thing k 1;thing s 1;");
+        for (int n = 1; n <= 11; n++) {
+            int row = row("k" + "s".repeat(n));
+            int due = n + 1;
+            CHECK.due("9: k and slides " + n, due, () -> slides.read(row, 1));
+            CHECK.due("9: k and slides, in one way " + n, 1, () -> slides.read(row, 0));
+        }
+        CHECK.due("9: ten words: k k, kk", 2, () -> full().read(row("kk"), 0));
+        CHECK.due("9: ten words: s k", 2, () -> full().read(row("sk"), 1));
+        CHECK.due("9: ten words: the last one begins within another", 0, () -> Check.told("thing kk 1;thing ss 1;thing rr 1;"
+            + "thing sss 1;thing rrr 1;thing ssss 1;thing rrrr 1;thing sr 1;thing rs 1;thing kp 1;").read(row("kkp"), 0));
         CHECK.due("9: the last sound is another", 0, () -> k.read(KNUCKLES + 1, 0));
         CHECK.due("9: the first sound is another", 0, () -> k.read(base5("211111111111"), 0));
     }
@@ -458,6 +471,13 @@ public final class BoundariesTest {
         CHECK.due("14: behind it, the last", 12, () -> y.word(8, 0));
         CHECK.due("14: its worth too", 99, () -> y.word(8, 3));
         CHECK.due("14: its part too", 2, () -> y.word(8, 2));
+        KnockBook z = Check.told("thing k 1;thing pppppp 1;");
+        z.die(0);
+        CHECK.due("14: how many sounds it has", 6, () -> z.word(0, 1));
+        CHECK.due("14: how many all have", 6, () -> z.count(4));
+        CHECK.due("14: it can be read", 1, () -> z.read(row("pppppp"), 0));
+        z.undo();
+        CHECK.due("14: its own again", 1, () -> z.word(0, 1));
     }
 
     /** Promises 15 and 16: "not 0 to 99", "not 0 to 2". */
@@ -607,6 +627,20 @@ public final class BoundariesTest {
             + "thing pkkkkk 1;thing kkkkk 1;").twoWays());
         CHECK.due("20: kp rsssss pkkkkk spprpp, kpr sssssp kkkkks pprpp", 20, () -> Check.told("thing kp 1;thing kpr 1;"
             + "thing rsssss 1;thing sssssp 1;thing pkkkkk 1;thing kkkkks 1;thing spprpp 1;thing pprpp 1;").twoWays());
+        CHECK.due("20: kpkpr begins with kp twice, but r is no word", -1, () -> Check.told("thing kp 1;thing kpkpr 1;").twoWays());
+        KnockBook x = Check.told("thing kk 1;thing kkk 1;thing kkkk 1;");
+        CHECK.due("20: kkkk, kk kk", 4, x::twoWays);
+        CHECK.due("20: asked again", 4, x::twoWays);
+        x.die(2);
+        CHECK.due("20: without kkkk", 5, x::twoWays);
+        x.die(1);
+        CHECK.due("20: kk alone", -1, x::twoWays);
+        x.undo();
+        CHECK.due("20: kkk is back", 5, x::twoWays);
+        KnockBook y = Check.told("thing kp 1;thing kpr 1;thing r 1;");
+        CHECK.due("20: kpr, kp r", 3, y::twoWays);
+        y.die(2);
+        CHECK.due("20: without r", -1, y::twoWays);
         CHECK.due("20: the rule isn't asked", 2, () -> Check.told("thing k 1;thing kk 1;joins 0;").twoWays());
     }
 
@@ -691,6 +725,17 @@ public final class BoundariesTest {
             CHECK.due("26: of six sounds, in " + n, due[n], () -> x.said(sounds));
         }
         CHECK.due("26: the most", 1188, () -> Check.told("thing k 99;").said(12));
+        KnockBook ten = Check.told(TEN);
+        int[] often = {0, 3, 99, 102, 198, 201, 297, 300, 396, 399, 495, 498, 594};
+        for (int n = 0; n <= 12; n++) {
+            int sounds = n;
+            CHECK.due("26: pp, at times s, in " + n, often[n], () -> ten.said(sounds));
+        }
+        ten.worth(0, 99);
+        for (int n = 12; n >= 0; n--) {
+            int sounds = n;
+            CHECK.due("26: k so often, " + n, 99 * n, () -> ten.said(sounds));
+        }
         CHECK.due("26: one alone, if none may follow", 99, () -> Check.told("thing k 99;joins 0;").said(12));
         CHECK.due("26: of worth 0", 0, () -> Check.told("thing k 0;").said(12));
         CHECK.due("26: a word of worth 0 between", 198,
@@ -791,6 +836,9 @@ public final class BoundariesTest {
         CHECK.due("33: k and p", 1, () -> x.game(0, 1, 1));
         x.worth(0, 31);
         CHECK.due("33: 31 less 20 is more", 1, () -> x.game(0, 1, 0));
+        // oak hears nothing of any of them, and k is the nearest to that: what isn't understood gains 0, like k's worth here
+        CHECK.due("33: k and p gain the same", 2, () -> Check.told("thing k 0;thing p 0;thing s 0;oak s;oak kp;").game(0, 1, 0));
+        CHECK.due("33: p loses no 20", 1, () -> Check.told("thing k 0;thing p 0;oak k;oak kp;").game(0, 1, 1));
         CHECK.due("33: one word, both can it", 1, () -> Check.told("thing k 0;pine k;pine k;").game(0, 1, 0));
         CHECK.due("33: it is the first", 0, () -> Check.told("thing k 0;pine k;pine k;").game(0, 1, 1));
         CHECK.due("33: all like, all rest but those alike", 90,
@@ -818,6 +866,9 @@ public final class BoundariesTest {
         CHECK.due("34: the first of nothing is lost", 1, () -> one.book().frost(0, 1, 2));
         CHECK.due("34: the last of nothing is lost", 1, () -> one.book().frost(1, 1, 2));
         CHECK.due("34: nothing stays nothing", 1, () -> one.book().frost(2, 1, 2));
+        CHECK.due("34: a slide is something", 0, () -> one.book().frost(6, 1, 2));
+        // 8 draws the first of two WORDS and 2 of 4: s is as near to k as to sp
+        CHECK.due("34: a slide ahead of nothing is one sound", 5, () -> Check.told("thing k 5;thing sp 3;oak k;").frost(8, 1, 1));
         for (int seed : new int[] {MIN, MAX, -1}) {
             Model model = new Model();
             for (int[] f : Check.feeds((TEN + SIX).getBytes(java.nio.charset.StandardCharsets.ISO_8859_1))) {
@@ -848,6 +899,16 @@ public final class BoundariesTest {
         CHECK.due("36: behind no book it is there", true, x::restore);
         Check.tell(x, "");
         CHECK.due("36: behind a book it is gone", false, x::restore);
+        KnockBook z = full();
+        z.hear(0, 1);
+        z.hear(4, 1);
+        z.image();
+        z.forget();
+        z.hear(2, 3);
+        z.hear(2, 3);
+        CHECK.due("36: r was heard", 4, z::which);
+        z.restore();
+        CHECK.due("36: k was heard", 1, z::which);
         KnockBook y = full();
         for (int i = 0; i < 40; i++) {
             y.worth(9, i);

@@ -22,6 +22,7 @@ public final class PromisesTest {
         hears();
         read();
         readByRule();
+        ruleAskedAnew();
         reading();
         apartAndNearest();
         take();
@@ -270,6 +271,34 @@ public final class PromisesTest {
                 CHECK.due("rule " + d[0] + " of " + d[1], d[2], () -> joins(d[0], d[1]));
             }
         }
+    }
+
+    /** What may follow what is asked of the WORDS as they are now. */
+    private static void ruleAskedAnew() {
+        String rule = "joins first<next;";
+        KnockBook x = Check.told("thing k 5;deed p 1;thing r 2;" + rule);
+        ruled(x, "as told", "pr", "kp");
+        x.image();
+        x.worth(1, 9);
+        ruled(x, "p is worth 9", "kp", "pr");
+        x.undo();
+        ruled(x, "undone", "pr", "kp");
+        x.die(0);
+        ruled(x, "k died", "pr", "rp");
+        x.take(row("k"), 0, 3);
+        ruled(x, "k is the third now", "rk", "kp");
+        ruled(x, "p is the first now", "pr", "rp");
+        x.restore();
+        ruled(x, "restored", "pr", "kp");
+        Check.tell(x, "thing k 5;deed p 1;thing r 2;joins next<first;");
+        ruled(x, "another rule", "kp", "pr");
+        Check.tell(x, "thing p 5;deed k 1;thing r 2;joins next<first;");
+        ruled(x, "other words", "pk", "kp");
+    }
+
+    private static void ruled(KnockBook x, String when, String may, String mayNot) {
+        CHECK.due("9: " + when + ": " + may, 1, () -> x.read(row(may), 0));
+        CHECK.due("9: " + when + ": " + mayNot, 0, () -> x.read(row(mayNot), 0));
     }
 
     /** Promise 10. */

@@ -329,6 +329,14 @@ public final class TextBoundariesTest {
         holds(true, "(0-1)");
         holds(true, "2");
         holds(false, "0");
+        String[] values = {"0", "1", "2", "(0-1)"};
+        for (int a = 0; a < values.length; a++) {
+            for (int b = 0; b < values.length; b++) {
+                holds(a > 0 && b > 0, values[a] + " and " + values[b]);
+                holds(a > 0 || b > 0, values[a] + " or " + values[b]);
+            }
+            holds(a == 0, "not " + values[a]);
+        }
         holds(true, "(2 and 3)=1");
         holds(true, "(0-1 or 0)=1");
         holds(true, "(not 2)=0");
