@@ -611,6 +611,9 @@ public final class BoundariesTest {
         KnockBook zero = Check.told("thing kk 1;joins 0;");
         CHECK.due("19: one word alone", 10, () -> zero.mend(KNUCKLES));
         KnockBook chain = Check.told("thing kkkkkk 0;thing k 1;thing p 2;thing r 3;thing s 4;thing ssssss 5;joins first+1=next;");
+        CHECK.due("19: krsp krsp, k comes in", 1, () -> Check.told("thing krsp 1;").mend(row("krsprsp")));
+        KnockBook ring = Check.told("thing krsrsp 0;thing k 1;thing p 2;joins next=first+1-first/2*3;");
+        CHECK.due("19: krsrsp k p krsrsp, two whole words come in and k", 3, () -> ring.mend(row("krsrsprsrsp")));
         CHECK.due("19: 16 sounds: four words between", 4, () -> chain.mend(row("kkkkkkssssss")));
     }
 
@@ -869,6 +872,10 @@ public final class BoundariesTest {
         CHECK.due("34: a slide is something", 0, () -> one.book().frost(6, 1, 2));
         // 8 draws the first of two WORDS and 2 of 4: s is as near to k as to sp
         CHECK.due("34: a slide ahead of nothing is one sound", 5, () -> Check.told("thing k 5;thing sp 3;oak k;").frost(8, 1, 1));
+        // of kkkkkk and a knuckle by rain, with a slide ahead of both; 6 draws the second of two WORDS and 2 of 4
+        KnockBook wet = Check.told("thing skkkkp 1;thing kkkkkk 7;pine k;");
+        wet.rain(0, true);
+        CHECK.due("34: a slide ahead of seven sounds", 7, () -> wet.frost(6, 1, 1));
         for (int seed : new int[] {MIN, MAX, -1}) {
             Model model = new Model();
             for (int[] f : Check.feeds((TEN + SIX).getBytes(java.nio.charset.StandardCharsets.ISO_8859_1))) {

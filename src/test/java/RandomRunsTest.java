@@ -101,7 +101,7 @@ public final class RandomRunsTest {
         return s.toString();
     }
 
-    /** WORDS one behind the other, as long as they fit, at times with another SOUND among them. */
+    /** WORDS one behind the other, as long as they fit, at times with SOUNDS that are lost, come in, or are others. */
     private String spoken() {
         StringBuilder s = new StringBuilder();
         int words = model.count(0);
@@ -111,10 +111,22 @@ public final class RandomRunsTest {
                 s.append(more);
             }
         }
-        if (s.length() > 0 && to(3) == 0) {
-            s.setCharAt(to(s.length()), (char) ('1' + to(4)));
+        for (int n = to(2) == 0 ? 1 + to(3) : 0; n > 0; n--) {
+            spoil(s);
         }
         return s.toString();
+    }
+
+    private void spoil(StringBuilder s) {
+        int at = to(s.length() + 1);
+        char sound = (char) ('1' + to(4));
+        if (at < s.length() && to(2) == 0) {
+            s.deleteCharAt(at);
+        } else if (at < s.length() && to(2) == 0) {
+            s.setCharAt(at, sound);
+        } else if (s.length() < 12) {
+            s.insert(at, sound);
+        }
     }
 
     private int smallRow() {
