@@ -66,8 +66,10 @@ public final class FaceTest {
         for (Class<?> inside : KnockBook.class.getDeclaredClasses()) {
             CHECK.due(inside + " is static", true, () -> Modifier.isStatic(inside.getModifiers()));
             noPrivateNamesake(inside, names);
+            keepsMeasure(inside);
         }
         noPrivateNamesake(KnockBook.class, names);
+        keepsMeasure(KnockBook.class);
         CHECK.due("some twelve classes", true, () -> KnockBook.class.getDeclaredClasses().length < 13);
         CHECK.end();
     }
@@ -106,5 +108,18 @@ public final class FaceTest {
             boolean isOurs = Modifier.isPrivate(m.getModifiers()) && names.contains(m.getName());
             CHECK.due(owner.getSimpleName() + "." + m.getName() + " bears the face's name", false, () -> isOurs);
         }
+    }
+
+    /** LANGUAGE.md's rule 11: seven parameters, some twenty fields beside the constants. */
+    private static void keepsMeasure(Class<?> owner) {
+        for (Method m : owner.getDeclaredMethods()) {
+            CHECK.due(owner.getSimpleName() + "." + m.getName() + " takes few", true, () -> m.getParameterCount() <= 7);
+        }
+        int fields = 0;
+        for (Field f : owner.getDeclaredFields()) {
+            fields += Modifier.isStatic(f.getModifiers()) ? 0 : 1;
+        }
+        int counted = fields;
+        CHECK.due(owner.getSimpleName() + " has few fields", true, () -> counted <= 20);
     }
 }
